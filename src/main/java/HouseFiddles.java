@@ -40,7 +40,7 @@ public final class HouseFiddles {
         secondImage = new Town();
         trial = new Boards();
         text = new Table(TEXT, 1);
-        reader = new Reader(text, new Town());
+        reader = new Reader();
         maker = new Maker();
         alike = new Table(Math.max(BOARDS, KINDS), 1);
         friends = new Table(INSTRUMENTS, 1);
@@ -116,7 +116,7 @@ public final class HouseFiddles {
     }
 
     public int read() {
-        int items = reader.readAll();
+        int items = reader.readAll(text);
         if (items >= 0) {
             now.become(reader.town);
         }
@@ -747,13 +747,17 @@ public final class HouseFiddles {
         }
 
         int get(int row, int column) {
-            boolean held = row >= 0 && row < rows && column >= 0 && column < width;
-            return held ? cells[row * width + column] : 0;
+            int at = row * width + column;
+            if (column < 0 || column >= width || at < 0 || at >= cells.length) {
+                return 0;
+            }
+            return cells[at];
         }
 
         void put(int row, int column, int value) {
-            if (row >= 0 && row < rows && column >= 0 && column < width) {
-                cells[row * width + column] = value;
+            int at = row * width + column;
+            if (column >= 0 && column < width && at >= 0 && at < cells.length) {
+                cells[at] = value;
             }
         }
 
@@ -1143,7 +1147,8 @@ public final class HouseFiddles {
 
         private boolean playsAsMarked(int kind, int i) {
             for (int row = 0; row < marks.many(); row++) {
-                int play = Strings.playBy(kind, marks.get(row, 4), marks.get(row, 1), marks.get(row, 2), marks.get(row, 3));
+                int s = marks.get(row, 4);
+                int play = Strings.playBy(kind, s, marks.get(row, 1), marks.get(row, 2), marks.get(row, 3));
                 if (marks.get(row, 0) == i && play != marks.get(row, 5)) {
                     return false;
                 }
@@ -1239,22 +1244,17 @@ public final class HouseFiddles {
 
     /** Reads THE TEXT into a town of its own, which stands only if there is no FAULT. */
     private static final class Reader {
-        private final Tokens tokens;
-        final Town town;
+        private final Tokens tokens = new Tokens();
+        final Town town = new Town();
         /** The TOKEN that was taken last: its sort, the place of its first byte, which word or number it is. */
         private int sort;
         private int start;
         private int value;
 
-        Reader(Table text, Town town) {
-            tokens = new Tokens(text);
-            this.town = town;
-        }
-
         /** How many ITEMS; -10 less the FAULT, which is where the TOKEN taken last begins. */
-        int readAll() {
+        int readAll(Table text) {
             town.empty();
-            tokens.split();
+            tokens.split(text);
             for (int items = 0; items <= TEXT; items++) {
                 take();
                 if (sort == Tokens.END && items > 0) {
@@ -1380,14 +1380,9 @@ public final class HouseFiddles {
         static final int TOWN = 0, WET = 1, BOARD = 2, MAKE = 3, CUT = 4, WORM_IN = 5, YEARS = 6;
         private static final int WORDS = 7;
 
-        private final Table text;
         /** Of each TOKEN its sort, the place of its first byte, its value. */
         final Table found = new Table(TEXT + 1, 3);
         private int taken;
-
-        Tokens(Table text) {
-            this.text = text;
-        }
 
         int next() {
             int row = taken;
@@ -1397,26 +1392,26 @@ public final class HouseFiddles {
             return row;
         }
 
-        void split() {
+        void split(Table text) {
             found.empty();
             taken = 0;
-            int at = endOfRun(0, ' ', ' ');
+            int at = endOfRun(text, 0, ' ', ' ');
             for (int k = 0; k < TEXT && at < text.many(); k++) {
-                at = endOfRun(splitOne(at), ' ', ' ');
+                at = endOfRun(text, splitOne(text, at), ' ', ' ');
             }
             add(END, text.many(), NONE);
         }
 
         /** The place behind the TOKEN that begins at a place. */
-        private int splitOne(int at) {
-            int behindLetters = endOfRun(at, 'a', 'z');
+        private int splitOne(Table text, int at) {
+            int behindLetters = endOfRun(text, at, 'a', 'z');
             if (behindLetters > at) {
-                add(WORD, at, wordNumber(at, behindLetters - at));
+                add(WORD, at, wordNumber(text, at, behindLetters - at));
                 return behindLetters;
             }
-            int behindFigures = endOfRun(at, '0', '9');
+            int behindFigures = endOfRun(text, at, '0', '9');
             if (behindFigures > at) {
-                add(behindFigures - at > 2 ? NO_TOKEN : NUMBER, at, numberAt(at, behindFigures - at));
+                add(behindFigures - at > 2 ? NO_TOKEN : NUMBER, at, numberAt(text, at, behindFigures - at));
                 return behindFigures;
             }
             add(text.get(at, 0) == ';' ? STOP : NO_TOKEN, at, NONE);
@@ -1430,7 +1425,7 @@ public final class HouseFiddles {
             found.put(row, 2, value);
         }
 
-        private int endOfRun(int start, int least, int most) {
+        private static int endOfRun(Table text, int start, int least, int most) {
             int end = start;
             while (end < text.many() && within(text.get(end, 0), least, most)) {
                 end++;
@@ -1439,21 +1434,21 @@ public final class HouseFiddles {
         }
 
         /** A longer run is no number, whatever its first two figures tell. */
-        private int numberAt(int start, int length) {
+        private static int numberAt(Table text, int start, int length) {
             int number = text.get(start, 0) - '0';
             return length == 1 ? number : 10 * number + text.get(start + 1, 0) - '0';
         }
 
-        private int wordNumber(int start, int length) {
+        private static int wordNumber(Table text, int start, int length) {
             for (int word = 0; word < WORDS; word++) {
-                if (spells(textOf(word), start, length)) {
+                if (spells(text, textOf(word), start, length)) {
                     return word;
                 }
             }
             return NONE;
         }
 
-        private boolean spells(String word, int start, int length) {
+        private static boolean spells(Table text, String word, int start, int length) {
             if (word.length() != length) {
                 return false;
             }

@@ -397,6 +397,7 @@ public final class Promises {
     x.cuts(5, 0); due("no more", x.tune(0, 0, 32), -1); due("no more", x.tune(0, 0, 26), 0);
     HouseFiddles lent = of("town;board 0 0 0 0;board 0 0 0 1;board 0 0 0 1;make 1;");
     due("HOUSES count", lent.tune(0, 0, 12), 6); due("HOUSES count", lent.tune(0, 0, 9), 3);
+    due("all that are free", of("town;board 0 0 0 0;board 0 0 0 0;make 0;").tune(0, 0, 12), 3);
     int[][] wrong = {{-1, 0, 1}, {3, 0, 1}, {0, -1, 1}, {0, 4, 1}, {0, 0, -1}, {0, 0, 201}, {HIGH, 0, 1}, {0, LOW, 1}, {0, 0, HIGH}, {0, 0, LOW}};
     for (int[] w : wrong) due("tune", x.tune(w[0], w[1], w[2]), -2);
     refused(x, 10, 0, 0);
@@ -453,6 +454,7 @@ public final class Promises {
     due("on all STRINGS", of("town;board 0 40 0 0;board 2 40 0 0;make 0;make 0;cut 0 0;cut 1 1;").orchestra(), 1);
     due("on all STRINGS", of("town;board 0 40 0 0;board 3 40 0 0;make 0;make 0;cut 0 0;cut 1 1;").orchestra(), 1);
     due("on STRING 0", of("town;board 0 40 0 0;board 0 40 0 0;make 0;make 2;cut 0 0;cut 1 1;").orchestra(), 1);
+    due("on STRING 1", of("town;board 0 56 0 0;board 4 0 0 0;board 4 0 0 0;make 5;make 5;cut 0 0;cut 1 1;cut 2 1;").orchestra(), 1);
     due("unlike by 3", of("town;board 0 40 0 0;board 1 40 0 0;make 0;make 0;cut 0 0;cut 1 1;").orchestra(), 3);
   }
   private static void p26() {
@@ -581,6 +583,9 @@ public final class Promises {
     // worth 0: none bids
     due("bids(1, -1)", x.bids(1, -1), 1); due("bids(1, 0)", x.bids(1, 0), 0); due("bids(1, 1)", x.bids(1, 1), -5); due("bids(1, 99)", x.bids(1, 99), -5);
     due("bids(1, HIGH)", x.bids(1, HIGH), -5);
+    HouseFiddles cello = of("town;board 0 0 5 0;make 0;make 2;cut 0 1;");
+    // worth 2 on STRING 0, 1 on the others: 1 and 1, 1 and 2 rest
+    due("on STRING 0", cello.bids(1, -1), 2); due("bids(1, 0)", cello.bids(1, 0), 11); due("bids(1, 1)", cello.bids(1, 1), 12);
     int[][] wrong = {{-1, 0}, {2, 0}, {0, -2}, {HIGH, 0}, {LOW, 0}, {0, LOW}};
     for (int[] w : wrong) due("bids", x.bids(w[0], w[1]), -10);
     refused(x, 6, 0, 0);
