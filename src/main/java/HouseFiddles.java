@@ -1205,9 +1205,11 @@ public final class HouseFiddles {
 
         private int mostWithShare(int i, int taken) {
             int most = NONE;
-            for (int share = taken; share >= 0; share = share == 0 ? NONE : (share - 1) & taken) {
-                int least = Math.min(reached.get(taken - share, 0), played.get(i, given.get(i, 0) | share));
-                most = Math.max(most, least);
+            for (int share = 0; share <= taken; share++) {
+                if (isPartOf(share, taken)) {
+                    int least = Math.min(reached.get(taken - share, 0), played.get(i, given.get(i, 0) | share));
+                    most = Math.max(most, least);
+                }
             }
             return most;
         }

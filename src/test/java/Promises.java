@@ -33,11 +33,6 @@ public final class Promises {
     due("status(1)", x.status(1), no);
     due("status(2)", x.status(2), full);
   }
-  private static long mixed(long... values) {
-    long h = 1523;
-    for (long v : values) h = 31 * h + v;
-    return h;
-  }
   private static void fraction(HouseFiddles x, long above, long below) {
     due("part(0)", x.part(0), above);
     due("part(1)", x.part(1), below);
@@ -51,7 +46,7 @@ public final class Promises {
     due("from(0)", x.from(0), -3);
     due("from(1)", x.from(1), -3);
     refused(x, 0, 2, 0);
-    due("digest()", new HouseFiddles().digest(), mixed(0, 0, 0, 0, 0, 0, 0, 0, 0, 0, 0, 0, 0, 0, 0, 0, 0, 1));
+    due("digest()", new HouseFiddles().digest(), Scenes.mixed(0, 0, 0, 0, 0, 0, 0, 0, 0, 0, 0, 0, 0, 0, 0, 0, 0, 1));
     due("NONE", HouseFiddles.NONE, -1); due("BAD", HouseFiddles.BAD, -2);
     due("NO", HouseFiddles.NO, -3); due("FULL", HouseFiddles.FULL, -4);
     HouseFiddles other = new HouseFiddles();
@@ -86,7 +81,7 @@ public final class Promises {
     for (int[] w : wrong) due("wet(" + w[0] + ", " + w[1] + ")", x.wet(w[0], w[1]), -2);
     due("digest()", x.digest(), before);
     refused(x, 8, 0, 0);
-    due("digest()", x.digest(), mixed(0, 0, 0, 0, 0, 0, 0, 0, 0, 0, 0, 0, 1, 0, 0, 2, 0, 1));
+    due("digest()", x.digest(), Scenes.mixed(0, 0, 0, 0, 0, 0, 0, 0, 0, 0, 0, 0, 1, 0, 0, 2, 0, 1));
     HouseFiddles y = new HouseFiddles();
     y.wet(0, 3); y.wet(1, 4); y.board(0, 0, 0, 0); y.year(1);
     due("DAMP", y.of(0, 2), 3);
@@ -715,7 +710,7 @@ public final class Promises {
     x.wet(0, 1); x.wet(3, 4); x.board(4, 55, 6, 3); x.board(1, 22, 0, 1); x.make(3); x.make(5); x.worm(1, 1); x.type('t'); x.type('o');
     x.cuts(0, 1); x.heard(2, 33); x.note(1, 44, 5, 3, 50); x.mark(1, 150, 4, 3, 2, 350); x.weeps(1, 1, 5); x.year(1);
     long above = x.part(0), below = x.part(1);
-    due("digest()", x.digest(), mixed(2, 2, 1, 1, 1, 6, 1, 1, 1, 2, 2, 1, 0, 0, 4, 0, 4, 56, 5, 3, 0, 1, 1, 23, 1, 1, 1, -1, 3, 5,
+    due("digest()", x.digest(), Scenes.mixed(2, 2, 1, 1, 1, 6, 1, 1, 1, 2, 2, 1, 0, 0, 4, 0, 4, 56, 5, 3, 0, 1, 1, 23, 1, 1, 1, -1, 3, 5,
         2, 33, 1, 44, 5, 3, 50, 1, 150, 4, 3, 2, 350, above, below));
     due("again", x.digest(), x.digest()); refused(x, 0, 0, 0);
   }
